@@ -185,8 +185,8 @@ public final class OneStatement {
         if (t == null || n < 0 || n > TURNS) {
             return NO_TURNS;
         }
-        int lead = search.leadOf(t, n, 0, 0);
-        return first ? search.firstMove : lead;
+        search.takeTurns(t, n);
+        return first ? search.firstMove : search.most;
     }
 
     public int fact(int log, int k, int what) {
@@ -1457,6 +1457,7 @@ public final class OneStatement {
         private final int[] hope = new int[PEOPLE + 1];
         /** What a couple gains, NONE where there can't be one. */
         private final int[] couples = new int[PEOPLE * PEOPLE];
+        private final int[] bests = new int[PEOPLE];
         private boolean wedding = false;
 
         /** How much (k NONE), or the k-th of the row. */
@@ -1530,8 +1531,11 @@ public final class OneStatement {
 
         void trade(Town t) {
             for (int p = 0; p < t.people; p++) {
+                bests[p] = t.bestGain(p);
+            }
+            for (int p = 0; p < t.people; p++) {
                 for (int q = 0; q < t.people; q++) {
-                    int more = t.bestGain(q) - t.bestGain(p);
+                    int more = bests[q] - bests[p];
                     couples[PEOPLE * p + q] = more > 0 ? more : NONE;
                 }
             }
@@ -1579,8 +1583,12 @@ public final class OneStatement {
             }
         }
 
+        void takeTurns(Town t, int n) {
+            most = leadOf(t, n, 0, 0);
+        }
+
         /** How much more he has whose turn it is: all hear, so that what was told is KNOWN by all. */
-        int leadOf(Town t, int left, int heardByAll, int used) {
+        private int leadOf(Town t, int left, int heardByAll, int used) {
             int first = NONE;
             int lead = 0;
             if (left > 0 && left <= TURNS) {

@@ -218,6 +218,8 @@ final class PromiseTest {
         faulty(1, "sell 0 1;", 1, 8);
         faulty(1, "eve 1;", 1, 4);
         faulty(1, "eve", 1, 3);
+        faulty(1, "evez;", 1, 0);
+        faulty(1, "zeve;", 1, 0);
         faulty(1, "person 1;", 1, 0);
         faulty(1, "asked 1;", 1, 0);
         faulty(1, "tell 6 0;eve", 1, 12);
@@ -435,6 +437,8 @@ final class PromiseTest {
         due("no fact", x.message(0, -1, 0), NONE);
         due("nobody", x.message(0, 0, 3), NONE);
         due("nobody", x.message(0, 0, -1), NONE);
+        due("nobody", x.message(0, 0, 32), NONE);
+        due("no fact", x.message(0, 32, 0), NONE);
         due("no town", x.message(1, 0, 0), NONE);
         Check.tell(x, 0, 0, STAR);
         due("of two knowers the nearer", x.message(0, 3, 3), 1);
@@ -614,6 +618,9 @@ final class PromiseTest {
         due("asked by who knows nothing", x.fits(1, 1, 3), 1);
         Check.tell(x, 2, 1, "told 0;told 0;asked 0;");
         due("told and asked", x.fits(1, 1, 0), 0);
+        Check.tell(x, 2, 1, "told 0;told 5;");
+        due("sure", x.fits(1, 1, 1), 33);
+        due("sure by what follows", x.fits(0, 1, 1), 43);
     }
 
     private static void drawn(int seed, int n, int[] all, int[] statements, int[] cows, int[] known, int[] suspected) {
@@ -853,6 +860,9 @@ final class PromiseTest {
         Check.tell(x, 2, 1, "");
         due("none at all", x.fewest(0, 1, false), 0);
         due("all", x.fewest(0, 1, true), 6);
+        Check.tell(x, 2, 1, "asked 0;asked 1;asked 2;asked 3;asked 4;asked 5;");
+        due("he knows nothing", x.fewest(0, 1, false), 0);
+        due("he knows nothing", x.fewest(0, 1, true), 0);
     }
 
     private static void count() {
