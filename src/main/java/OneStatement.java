@@ -68,14 +68,15 @@ public final class OneStatement {
     }
 
     public int text(int sort, int at) {
+        int length = told.length;
+        told.length = 0;
         told.fault = 0;
         told.place = NONE;
         int had = told.howMany(sort);
         if (had == NO_SUCH || at < NONE || at >= had || (at == NONE && had >= OF_A_SORT)) {
             return NO_SUCH;
         }
-        reader.read(told.tape, told.length, sort);
-        told.length = 0;
+        reader.read(told.tape, length, sort);
         told.fault = reader.fault;
         told.place = reader.place;
         if (reader.fault != 0) {

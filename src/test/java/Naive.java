@@ -62,6 +62,8 @@ final class Naive {
     }
 
     int text(int sort, int at) {
+        String text = tape.toString();
+        tape.setLength(0);
         faultNumber = 0;
         faultPlace = -1;
         int had = count(sort);
@@ -70,8 +72,6 @@ final class Naive {
         if (!further && !instead) {
             return -2;
         }
-        String text = tape.toString();
-        tape.setLength(0);
         List<int[]> lines = new ArrayList<>();
         if (!parse(text, sort, lines)) {
             return -1;

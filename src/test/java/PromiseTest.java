@@ -115,7 +115,7 @@ final class PromiseTest {
         due("no third", Check.tell(x, 0, NONE, "person 1"), -2);
         due("no fault then", x.fault(0), 0);
         due("no place then", x.fault(1), NONE);
-        due("the tape stays", x.end(8), 8);
+        due("the tape is taken all the same", x.end(1), NONE);
         due("in the place of the first", Check.tell(x, 0, 0, "person 7;"), 0);
         due("people", x.town(0, 0), 1);
         due("the second stays", x.town(1, 0), 5);
@@ -129,13 +129,18 @@ final class PromiseTest {
         due("the tape is empty", x.end(1), NONE);
         due("no year 0", Check.tell(x, 1, 0, "eve;"), -2);
         due("fault 0 again", x.fault(0), 0);
-        due("first year", x.text(1, NONE), 0);
-        due("no year 1", Check.tell(x, 1, 1, ""), -2);
-        due("sort 3", Check.tell(x, 3, NONE, ""), -2);
-        due("sort -1", Check.tell(x, -1, NONE, ""), -2);
-        due("sort MAX", Check.tell(x, MAX, 0, ""), -2);
-        due("at -2", Check.tell(x, 0, -2, ""), -2);
-        due("at 2", Check.tell(x, 0, 2, ""), -2);
+        due("a year of an empty tape", x.text(1, NONE), 0);
+        due("no deed is left over", x.deed(0, NONE, 0), 0);
+        refused("no year 1", 1, 1);
+        refused("no third town", 0, NONE);
+        refused("sort 3", 3, NONE);
+        refused("sort -1", -1, NONE);
+        refused("sort MAX", MAX, 0);
+        refused("at -2", 0, -2);
+        refused("at 2", 0, 2);
+        refused("at MIN", 0, MIN);
+        due("two towns still", x.count(0), 2);
+        due("one year still", x.count(1), 1);
         due("an empty log", Check.tell(x, 2, NONE, ""), 0);
         due("an empty log", x.fact(0, NONE, 0), 0);
         due("a further log", Check.tell(x, 2, NONE, " \n "), 1);
@@ -144,6 +149,16 @@ final class PromiseTest {
         due("no third year", Check.tell(x, 1, NONE, ""), -2);
         due("an empty town", Check.tell(x, 0, 0, ""), 0);
         due("an empty town", x.town(0, 0), 0);
+    }
+
+    /** No text is read, so that what would be a FAULT is none; the tape is taken. */
+    private static void refused(String why, int sort, int at) {
+        Check.tell(x, 1, 0, "told 1;");
+        due("a fault ahead", x.fault(0), 1);
+        due(why, Check.tell(x, sort, at, "told"), -2);
+        due(why + ": fault", x.fault(0), 0);
+        due(why + ": place", x.fault(1), NONE);
+        due(why + ": the tape is empty", x.feed(0, 0, 0, 0, 0), 20);
     }
 
     private static void faulty(int sort, String text, int fault, int place) {

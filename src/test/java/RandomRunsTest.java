@@ -61,15 +61,15 @@ final class RandomRunsTest {
         if (below(4) == 0) {
             text = spoil(text);
         }
-        feed(text);
+        int cut = below(3) == 0 ? below(text.length() + 1) : 0;
+        feed(text.substring(0, cut));
+        feed(text.substring(cut));
         int at = y.count(sort) < 2 && below(2) == 0 ? -1 : aboutOrNone(2);
         int as = below(30) == 0 ? about(3) : sort;
         due("text(" + as + ", " + at + ") of <" + text + ">", x.text(as, at), y.text(as, at));
         due("fault(0)", x.fault(0), y.fault(0));
         due("fault(1) of <" + text + ">", x.fault(1), y.fault(1));
-        if (y.fault(0) == 0 && below(3) > 0) {
-            due("end(0)", x.end(0), y.end(0));
-        }
+        due("end(1)", x.end(1), y.end(1));
     }
 
     private void feed(String text) {
