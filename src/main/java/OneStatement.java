@@ -867,6 +867,11 @@ public final class OneStatement {
             return all;
         }
 
+        /** A FACT with all that FOLLOWS from it. */
+        int wholeOf(int fact) {
+            return fact >= 0 && fact < FACTS ? follows[fact] | 1 << fact : 0;
+        }
+
         int whoKnow(int fact) {
             int who = 0;
             for (int p = 0; p < people; p++) {
@@ -884,7 +889,7 @@ public final class OneStatement {
         }
 
         int whole(int fact) {
-            return worthOf[withAll(1 << fact) & ALL_FACTS];
+            return worthOf[wholeOf(fact) & ALL_FACTS];
         }
 
         int dearest() {
@@ -957,7 +962,7 @@ public final class OneStatement {
 
         /** What all who HEAR him learn, if he alone tells this. */
         int gain(int person, int fact) {
-            int all = withAll(1 << fact);
+            int all = wholeOf(fact);
             int sum = 0;
             for (int q = 0; q < people; q++) {
                 sum += isIn(hears[q], person) ? worthOf[all & ~known[q] & ALL_FACTS] : 0;
@@ -1132,7 +1137,7 @@ public final class OneStatement {
             if (person < 0 || person >= people) {
                 return;
             }
-            known[person] |= t.withAll(1 << fact);
+            known[person] |= t.wholeOf(fact);
             suspected[person] &= ~known[person];
         }
 
@@ -1452,7 +1457,7 @@ public final class OneStatement {
         int firstMove = NONE;
         private final int[] row = new int[6];
         private final int[] trial = new int[6];
-        /** What each KNOWS when the first k have told, six numbers a k. */
+        /** What each KNOWS behind k tellings, six numbers a k. */
         private final int[] heard = new int[(PEOPLE + 1) * PEOPLE];
         /** How much the PEOPLE from k on may add at most. */
         private final int[] hope = new int[PEOPLE + 1];
@@ -1498,23 +1503,24 @@ public final class OneStatement {
             for (int f = 0; f < FACTS; f++) {
                 if (t.knows(p, f)) {
                     trial[p] = f;
-                    ringFrom(t, p + 1, gained + hearFrom(t, p, t.withAll(1 << f)));
+                    ringFrom(t, p + 1, gained + hearFrom(t, p, p, t.wholeOf(f)));
                 }
             }
             trial[p] = NOBODY;
-            ringFrom(t, p + 1, gained + hearFrom(t, p, 0));
+            ringFrom(t, p + 1, gained + hearFrom(t, p, p, 0));
         }
 
-        private int hearFrom(Town t, int p, int facts) {
+        /** What is learnt when a PERSON tells behind k tellings; who KNOWS what then is behind k + 1. */
+        private int hearFrom(Town t, int k, int person, int facts) {
             int gain = 0;
-            if (p < 0 || p >= PEOPLE) {
+            if (k < 0 || k >= PEOPLE || person < 0 || person >= PEOPLE) {
                 return gain;
             }
             for (int q = 0; q < t.people; q++) {
-                int before = heard[PEOPLE * p + q];
-                int fresh = isIn(t.hears[q], p) ? facts & ~before & ALL_FACTS : 0;
+                int before = heard[PEOPLE * k + q];
+                int fresh = isIn(t.hears[q], person) ? facts & ~before & ALL_FACTS : 0;
                 gain += t.worthOf[fresh];
-                heard[PEOPLE * (p + 1) + q] = before | fresh;
+                heard[PEOPLE * (k + 1) + q] = before | fresh;
             }
             return gain;
         }
@@ -1585,26 +1591,24 @@ public final class OneStatement {
         }
 
         void takeTurns(Town t, int n) {
-            most = leadOf(t, n, 0, 0);
+            System.arraycopy(t.known, 0, heard, 0, PEOPLE);
+            most = leadOf(t, 0, n, 0);
         }
 
-        /** How much more he has whose turn it is: all hear, so that what was told is KNOWN by all. */
-        private int leadOf(Town t, int left, int heardByAll, int used) {
+        /** How much more he has whose turn it is. A turn, too, is heard by those alone who HEAR the teller. */
+        private int leadOf(Town t, int turn, int left, int used) {
             int first = NONE;
             int lead = 0;
-            if (left > 0 && left <= TURNS) {
+            if (left > 0 && turn >= 0 && turn < TURNS) {
                 first = NOBODY_TELLS;
-                lead = -leadOf(t, left - 1, heardByAll, used);
-                for (int f = 0; f < FACTS; f++) {
-                    int all = t.withAll(1 << f);
-                    int gain = gainOfAll(t, all & ~heardByAll);
-                    for (int p = 0; p < t.people; p++) {
-                        if (!isIn(used, p) && isIn(t.known[p] | heardByAll, f)) {
-                            int value = gain - leadOf(t, left - 1, heardByAll | all, used | 1 << p);
-                            if (value > lead || (value == lead && 10 * p + f < first)) {
-                                lead = value;
-                                first = 10 * p + f;
-                            }
+                lead = hearFrom(t, turn, 0, 0) - leadOf(t, turn + 1, left - 1, used);
+                for (int p = 0; p < t.people; p++) {
+                    int can = isIn(used, p) ? 0 : heard[PEOPLE * turn + p];
+                    for (int f = 0; f < FACTS; f++) {
+                        int value = isIn(can, f) ? leadBy(t, turn, left, used, p, f) : lead - 1;
+                        if (value > lead || (value == lead && first == NOBODY_TELLS)) {
+                            lead = value;
+                            first = 10 * p + f;
                         }
                     }
                 }
@@ -1613,12 +1617,9 @@ public final class OneStatement {
             return lead;
         }
 
-        private static int gainOfAll(Town t, int facts) {
-            int sum = 0;
-            for (int q = 0; q < t.people; q++) {
-                sum += t.worthOf[facts & ~t.known[q] & ALL_FACTS];
-            }
-            return sum;
+        private int leadBy(Town t, int turn, int left, int used, int p, int f) {
+            int gain = hearFrom(t, turn, p, t.wholeOf(f));
+            return left > 1 ? gain - leadOf(t, turn + 1, left - 1, used | 1 << p) : gain;
         }
     }
 

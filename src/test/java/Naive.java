@@ -849,7 +849,7 @@ final class Naive {
                 boolean[][] then = new boolean[t.people()][];
                 int gain = 0;
                 for (int q = 0; q < t.people(); q++) {
-                    then[q] = flags(close(t, bits(knows[q]) | 1 << f));
+                    then[q] = t.hears[q][p] ? flags(close(t, bits(knows[q]) | 1 << f)) : knows[q];
                     gain += worth(t, bits(then[q])) - worth(t, bits(knows[q]));
                 }
                 used[p] = true;

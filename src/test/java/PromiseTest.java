@@ -563,23 +563,49 @@ final class PromiseTest {
     private static void byTurns() {
         x = Check.with(RING, null, null);
         turns(0, 0, NONE);
-        turns(1, 16, 14);
-        turns(2, 3, 14);
-        turns(3, 3, 14);
+        turns(1, 8, 14);
+        // 1 tells 2 (7), then 0 tells 0, or 2 tells 2 (7)
+        turns(2, 0, 12);
+        // and then he who has not told tells what is worth 7
+        turns(3, 7, 12);
         turns(4, -999, -999);
         turns(-1, -999, -999);
         due("no town", x.byTurns(1, 0, false), -999);
         Check.tell(x, 0, 0, "");
         turns(1, 0, 99);
         turns(3, 0, 99);
-        Check.tell(x, 0, 0, "person 0;person 0;");
+        Check.tell(x, 0, 0, "person 0;person 0;hears 0 1;hears 1 0;");
         turns(2, 0, 99);
-        Check.tell(x, 0, 0, "person 0;person 0;knows 1 2;knows 1 3;");
-        turns(1, 1, 12);
-        Check.tell(x, 0, 0, "person 0;person 0;knows 0 2;knows 0 3;knows 1 2;knows 1 3;");
+        Check.tell(x, 0, 0, "person 0;person 0;knows 0 2;knows 0 3;knows 1 2;knows 1 3;hears 0 1;");
         turns(2, 0, 2);
-        // 1 tells fact 1 to two (10), then 0 fact 0 to two (2)
-        Check.tell(x, 0, 0, "person 0;person 0;person 0;worth 0 1;worth 1 5;knows 0 0;knows 1 1;");
+        turnsByWhoHears();
+    }
+
+    private static void turnsByWhoHears() {
+        Check.tell(x, 0, 0, "person 0;person 0;knows 1 2;knows 1 3;");
+        turns(1, 0, 12);
+        turns(3, 0, 12);
+        Check.tell(x, 0, 0, "person 0;person 0;knows 1 2;knows 1 3;hears 1 0;");
+        turns(1, 0, 12);
+        Check.tell(x, 0, 0, "person 0;person 0;knows 1 2;knows 1 3;hears 0 1;");
+        turns(1, 1, 12);
+        // 1 HEARS 0, 2 HEARS 1: what 0 told is KNOWN by 1, who tells it to 2
+        Check.tell(x, 0, 0, "person 0;person 0;person 0;knows 0 0;hears 1 0;hears 2 1;");
+        turns(1, 1, 0);
+        turns(2, 0, 0);
+        turns(3, 0, 0);
+        // 2 has not HEARD 0, so that 2 can't tell it to the four who HEAR 2
+        String four = "person 0;person 0;person 0;person 0;person 0;person 0;knows 0 0;hears 1 0;"
+            + "hears 1 2;hears 3 2;hears 4 2;hears 5 2;";
+        Check.tell(x, 0, 0, four);
+        turns(1, 1, 0);
+        turns(2, 1, 0);
+        Check.tell(x, 0, 0, four + "hears 2 0;");
+        turns(1, 2, 0);
+        turns(2, -1, 0);
+        // each HEARS all: 1 tells fact 1 to two (10), then 0 fact 0 to two (2)
+        Check.tell(x, 0, 0, "person 0;person 0;person 0;worth 0 1;worth 1 5;knows 0 0;knows 1 1;"
+            + "hears 0 1;hears 0 2;hears 1 0;hears 1 2;hears 2 0;hears 2 1;");
         turns(1, 10, 11);
         turns(2, 8, 11);
     }
