@@ -2,6 +2,8 @@
 final class Check {
     private static int wrong = 0;
     private static int seen = 0;
+    private static int sentences = 0;
+    private static String sentence = "";
 
     private Check() {
     }
@@ -40,12 +42,18 @@ final class Check {
         return x;
     }
 
+    /** The sentence of the document that the next answers are held against. */
+    static void says(String words) {
+        sentence = " (" + words + ")";
+        sentences++;
+    }
+
     static void due(String call, long got, long want) {
         seen++;
         if (got != want) {
             wrong++;
             if (wrong <= 50) {
-                System.out.println(call + " answered " + got + ", due is " + want);
+                System.out.println(call + " answered " + got + ", due is " + want + sentence);
             }
         }
     }
@@ -55,7 +63,8 @@ final class Check {
     }
 
     static void finish() {
-        System.out.println(seen + " answers, " + wrong + " not as due");
+        String of = sentences == 0 ? "" : " to " + sentences + " sentences";
+        System.out.println(seen + " answers" + of + ", " + wrong + " not as due");
         if (wrong != 0 || seen == 0) {
             System.exit(1);
         }
