@@ -146,6 +146,10 @@ final class BoundsOfTownsTest {
         byNone(0);
         tell("person 0;person 0;knows 0 0;");
         byNone(0);
+        tell("person 0;person 0;person 0;knows 0 0;hears 1 2;hears 2 1;");
+        byNone(0);
+        tell("person 0;person 0;person 0;knows 2 0;hears 0 1;hears 1 0;");
+        byNone(0);
         tell("person 0;");
         byNone(0);
         Check.says("10: NONE: there is none such (a FACT)");
@@ -179,8 +183,13 @@ final class BoundsOfTownsTest {
             due("nobody KNOWS it", x.message(0, 0, p), NONE);
         }
         Check.says("11: NONE: there is none such (a FACT)");
+        tell(LINE + STAIRS + "knows 0 0;");
+        for (int fact = 0; fact < 6; fact++) {
+            due("FACT " + fact, x.message(0, fact, 5), 5);
+        }
         for (int fact : BEYOND_FACTS) {
             due("FACT " + fact, x.message(0, fact, 0), NONE);
+            due("FACT " + fact, x.message(0, fact, 5), NONE);
         }
         Check.says("11: NONE: there is none such (a PERSON)");
         for (int people = 0; people <= 6; people++) {
@@ -252,6 +261,10 @@ final class BoundsOfTownsTest {
         row("bell", 2, 0, 1, 6);
         tell("person 0;person 0;knows 0 0;knows 1 0;hears 1 0;hears 0 1;");
         row("bell", 0, 0, 0);
+        tell("person 0;person 0;person 0;worth 1 3;worth 2 5;knows 0 0;knows 0 1;knows 2 2;hears 1 0;hears 1 2;");
+        row("bell", 8, 1, 6, 2);
+        tell(SIX + "worth 1 3;worth 2 5;knows 0 0;knows 0 1;knows 5 2;knows 4 3;hears 1 0;hears 1 5;hears 1 4;hears 2 5;");
+        row("bell", 14, 1, 6, 6, 6, 3, 2);
         Check.says("Terms: BELL: all at once (nobody tells what he hears)");
         tell(LINE + "knows 0 0;worth 0 20;");
         row("bell", 20, 0, 6, 6, 6, 6, 6);
@@ -345,6 +358,11 @@ final class BoundsOfTownsTest {
         fraction(6, 2, 17, 4);
         fraction(6, 3, 14, 3);
         fraction(6, 4, 89, 18);
+        fraction(3, 9, 19427, 6561);
+        fraction(4, 9, 63349, 16384);
+        fraction(5, 9, 1847653, 390625);
+        fraction(6, 8, 64109, 11664);
+        fraction(6, 9, 390529, 69984);
     }
 
     private static void fraction(int m, int n, long over, long under) {
@@ -414,6 +432,14 @@ final class BoundsOfTownsTest {
         turns(1, 1, 0);
         turns(2, 1, 0);
         turns(3, 1, 0);
+        tell("person 0;person 0;knows 0 0;knows 0 1;hears 1 0;worth 1 2;");
+        turns(1, 2, 1);
+        turns(2, 2, 1);
+        turns(3, 2, 1);
+        tell("person 0;person 0;knows 0 0;knows 0 5;hears 1 0;worth 0 2;");
+        turns(1, 2, 0);
+        turns(2, 2, 0);
+        turns(3, 2, 0);
         Check.says("Terms: TURNS: or nobody");
         // if 0 tells 1 (1), the other one has 1 tell four (4); if nobody tells, the other one has 0 tell (1)
         tell(SIX + "knows 0 0;hears 1 0;hears 2 1;hears 3 1;hears 4 1;hears 5 1;");
@@ -484,7 +510,11 @@ final class BoundsOfTownsTest {
         wholesAre("worth 0 0;worth 1 0;worth 2 0;worth 3 0;worth 4 0;worth 5 0;", 0, 0, 0, 0, 0, 0, 0);
         wholesAre("worth 0 20;worth 1 20;worth 2 20;worth 3 20;worth 4 20;worth 5 20;" + STAIRS + "follows 5 0;",
             0, 120, 120, 120, 120, 120, 120);
-        wholesAre("worth 5 2;", 5, 1, 1, 1, 1, 1, 2);
+        for (int f = 0; f < 6; f++) {
+            int[] dues = {1, 1, 1, 1, 1, 1};
+            dues[f] = 2;
+            wholesAre("worth " + f + " 2;", f, dues);
+        }
     }
 
     private static void wholesAre(String town, int dearest, int... dues) {
@@ -653,6 +683,7 @@ final class BoundsOfTownsTest {
         Check.says("23: NONE: there is none such (a FACT)");
         for (int f : BEYOND_FACTS) {
             due("LEARNT of 0, " + f, x.learnt(0, 0, f), NONE);
+            due("LEARNT of 5, who KNOWS all, " + f, x.learnt(0, 5, f), NONE);
         }
         Check.says("23: NONE: there is none such (a PERSON)");
         noPerson(people -> "person 0;".repeat(people) + (people > 0 ? "knows " + (people - 1) + " 0;" : ""),
@@ -730,6 +761,11 @@ final class BoundsOfTownsTest {
         // BESTS: 20, 7, 0, 0, 0, 0
         tell(SIX + "worth 0 20;worth 1 7;knows 0 0;knows 1 1;hears 2 0;hears 3 1;");
         row("sales", 27, 6, 6, 0, 1, 6, 6);
+        // BESTS 5, 9, 0: by two sales as much could be gained, but 0 would be in two
+        tell("person 0;person 0;person 0;worth 0 5;worth 1 9;knows 0 0;knows 1 1;hears 2 0;hears 2 1;");
+        row("sales", 9, 6, 6, 1);
+        tell("person 0;person 0;person 0;worth 0 9;worth 1 5;knows 0 0;knows 1 1;hears 2 0;hears 2 1;");
+        row("sales", 9, 6, 6, 0);
         tell(SIX + "worth 0 20;worth 1 20;worth 2 20;knows 3 0;knows 4 1;knows 5 2;hears 0 3;hears 0 4;hears 0 5;");
         row("sales", 60, 3, 4, 5, 6, 6, 6);
     }
@@ -762,6 +798,11 @@ final class BoundsOfTownsTest {
             tell(town.toString());
             luck(0, new int[] {0, 1, 1, 1, 1, 5, 1}[known], new int[] {1, 12, 6, 4, 3, 12, 2}[known]);
         }
+        Check.says("Terms: LUCK: of whom he does not HEAR he learns nothing");
+        tell("person 0;person 0;person 0;knows 0 0;knows 1 1;hears 2 1;");
+        luck(0, 0, 1);
+        luck(1, 0, 1);
+        luck(2, 1, 3);
         Check.says("Terms: LUCK: something of no WORTH is something, too");
         tell("person 0;person 0;hears 1 0;knows 0 0;worth 0 0;");
         luck(1, 1, 2);
